@@ -299,7 +299,7 @@ public final class Chipfold {
         if (debts.total() > MOST_DEBTS_RANKED) {
             throw new IllegalStateException("all debts together are more than 8");
         }
-        return debts.rankNow();
+        return debts.rankOf(false);
     }
 
     // The picture.
@@ -352,8 +352,15 @@ public final class Chipfold {
         if (group.treeNumber() != treeCount.countTrees(graph)) {
             return false;
         }
-        // A pile of a graph that is not whole may never settle, and is not looked at.
-        return !graph.isConnected() || (settlesAlikeFromAbove() && ranksDifferAsDue());
+        if (!graph.isConnected()) {
+            // A pile of such a graph may never settle, so there is nothing to compare.
+            return true;
+        }
+        if (!settlesAlikeFromAbove()) {
+            return false;
+        }
+        int due = debts.total() - graph.edgeNumber() + graph.size();
+        return !debts.canRankBoth() || debts.rankOf(false) - debts.rankOf(true) == due;
     }
 
     private boolean settlesAlikeFromAbove() {
@@ -361,16 +368,6 @@ public final class Chipfold {
         secondTrial.copyChips(pile);
         int topplings = trial.settleAll(false);
         return topplings == secondTrial.settleAll(true) && trial.isLike(secondTrial);
-    }
-
-    private boolean ranksDifferAsDue() {
-        int total = debts.total();
-        int rest = debts.restTotal();
-        if (total < 0 || total > MOST_DEBTS_RANKED || rest < 0 || rest > MOST_DEBTS_RANKED) {
-            return true;
-        }
-        int due = total - graph.edgeNumber() + graph.size();
-        return debts.rankNow() - debts.rankOfRest() == due;
     }
 
     private void beginAgain() {
@@ -448,7 +445,7 @@ public final class Chipfold {
     /** The vertices, their edges and the sink. */
     private static final class Graph {
         private final int[] joined = new int[MOST_VERTICES * MOST_VERTICES];
-        private final Row degrees = new Row(MOST_VERTICES);
+        private final int[] degrees = new int[MOST_VERTICES];
         private int vertices = 0;
         private int sinkNow = 0;
 
@@ -467,21 +464,25 @@ public final class Chipfold {
         }
 
         int between(int v, int w) {
+            if (v < 0 || v >= vertices || w < 0 || w >= vertices) {
+                return 0;
+            }
             int cell = v * MOST_VERTICES + w;
-            return has(v) && has(w) && cell >= 0 && cell < joined.length ? joined[cell] : 0;
+            return cell < joined.length ? joined[cell] : 0;
         }
 
         void join(int v, int w, int edges) {
-            int more = edges - between(v, w);
             joinOneWay(v, w, edges);
             joinOneWay(w, v, edges);
-            degrees.add(v, more);
-            degrees.add(w, more);
         }
 
         private void joinOneWay(int v, int w, int edges) {
+            if (v < 0 || v >= vertices || w < 0 || w >= vertices) {
+                return;
+            }
             int cell = v * MOST_VERTICES + w;
-            if (has(v) && has(w) && cell >= 0 && cell < joined.length) {
+            if (cell < joined.length && v < degrees.length) {
+                degrees[v] += edges - joined[cell];
                 joined[cell] = edges;
             }
         }
@@ -499,11 +500,15 @@ public final class Chipfold {
         }
 
         int degreeOf(int v) {
-            return degrees.at(v);
+            return v >= 0 && v < degrees.length ? degrees[v] : 0;
         }
 
         int edgeNumber() {
-            return degrees.sum() / 2;
+            int ends = 0;
+            for (int v = 0; v < degrees.length; v++) {
+                ends += degrees[v];
+            }
+            return ends / 2;
         }
 
         /** How many vertices there are but the sink. */
@@ -540,7 +545,7 @@ public final class Chipfold {
             return neighbours;
         }
 
-        /** The other end of an edge in the row of a vertex, or the sink if there is no such edge. */
+        /** The other end of an edge in the row of a vertex, the sink if there is no such edge. */
         int endOf(int v, int edge) {
             int left = edge;
             for (int w = 0; w < vertices; w++) {
@@ -621,9 +626,11 @@ public final class Chipfold {
             held.add(v, -times * graph.degreeOf(v));
             counts.add(v, times);
             for (int w = 0; w < graph.size(); w++) {
-                int edges = graph.between(v, w);
-                if (edges > 0) {
-                    receive(w, times * edges);
+                int moved = times * graph.between(v, w);
+                if (graph.isSink(w)) {
+                    taken += moved;
+                } else {
+                    held.add(w, moved);
                 }
             }
         }
@@ -640,7 +647,7 @@ public final class Chipfold {
                 for (int i = 0; i < graph.size(); i++) {
                     int v = fromHighest ? graph.size() - 1 - i : i;
                     int degree = graph.degreeOf(v);
-                    if (canTopple(v) && degree > 0) {
+                    if (degree > 0 && canTopple(v)) {
                         int times = held.at(v) / degree;
                         toppleTimes(v, times);
                         topplings += times;
@@ -748,18 +755,20 @@ public final class Chipfold {
         private static final int WIDTH = MOST_VERTICES - 1;
         private final long[] cells = new long[WIDTH * WIDTH];
 
-        private boolean has(int row, int column) {
-            return row >= 0 && row < WIDTH && column >= 0 && column < WIDTH;
-        }
-
         long at(int row, int column) {
+            if (row < 0 || row >= WIDTH || column < 0 || column >= WIDTH) {
+                return 0;
+            }
             int cell = row * WIDTH + column;
-            return has(row, column) && cell >= 0 && cell < cells.length ? cells[cell] : 0;
+            return cell < cells.length ? cells[cell] : 0;
         }
 
         void write(int row, int column, long value) {
+            if (row < 0 || row >= WIDTH || column < 0 || column >= WIDTH) {
+                return;
+            }
             int cell = row * WIDTH + column;
-            if (has(row, column) && cell >= 0 && cell < cells.length) {
+            if (cell < cells.length) {
                 cells[cell] = value;
             }
         }
@@ -1105,19 +1114,13 @@ public final class Chipfold {
             return left;
         }
 
-        int rankNow() {
-            return rankOf(owned);
-        }
-
-        /** All that the degrees less 2 each less the debts are together. */
-        int restTotal() {
+        /** Whether the debts, and the degrees less 2 each less them, are 0 to 8 together. */
+        boolean canRankBoth() {
             writeRest();
-            return rest.sum();
-        }
-
-        int rankOfRest() {
-            writeRest();
-            return rankOf(rest);
+            int sum = owned.sum();
+            int sumOfRest = rest.sum();
+            return sum >= 0 && sum <= MOST_DEBTS_RANKED
+                    && sumOfRest >= 0 && sumOfRest <= MOST_DEBTS_RANKED;
         }
 
         private void writeRest() {
@@ -1128,11 +1131,13 @@ public final class Chipfold {
         }
 
         /**
-         * The rank of debts that are 8 together at most. Whatever the sink loses besides, it has
-         * that much less in the reduced row: so losses of the others are tried alone, and tell
-         * how much the sink can lose.
+         * The rank of the debts, or of the degrees less 2 each less them, if these are 8 together
+         * at most. Whatever the sink loses besides, it has that much less in the reduced row: so
+         * losses of the others are tried alone, and tell how much the sink can lose.
          */
-        private int rankOf(Row debts) {
+        int rankOf(boolean ofRest) {
+            writeRest();
+            Row debts = ofRest ? rest : owned;
             int total = debts.sum();
             if (total < 0) {
                 return -1;
@@ -1152,23 +1157,19 @@ public final class Chipfold {
             losses.write(0, lost);
             boolean more = true;
             for (int turn = 0; turn < MOST_ROUNDS && more && rank >= lost; turn++) {
-                int left = sinkAfterLosses(total);
+                poorer.copyChips(finder.pileFound());
+                for (int i = 0; i < graph.others(); i++) {
+                    // One that loses misses as many more.
+                    poorer.receive(graph.otherAt(i), losses.at(i));
+                }
+                poorer.settleAll(false);
+                int left = sinkReduced(total, poorer);
                 if (left < rank) {
                     rank = Math.max(left, lost - 1);
                 }
                 more = nextLosses();
             }
             return rank;
-        }
-
-        /** One that loses one misses one more. */
-        private int sinkAfterLosses(int total) {
-            poorer.copyChips(finder.pileFound());
-            for (int i = 0; i < graph.others(); i++) {
-                poorer.receive(graph.otherAt(i), losses.at(i));
-            }
-            poorer.settleAll(false);
-            return sinkReduced(total, poorer);
         }
 
         /** Shares the same losses out in another way; returns whether there was one more. */
