@@ -9,6 +9,7 @@ public final class RotorTest {
         Check c = new Check();
         walkOnPath(c);
         walkOverSeveralEdges(c);
+        longWalks(c);
         wrongWalks(c);
         rotors(c);
         visits(c);
@@ -39,6 +40,15 @@ public final class RotorTest {
         c.due("fourth walk", 1, () -> x.walk(1));
         c.due("rotor at the third edge again", 2, () -> x.rotor(1));
         c.due("visits(2)", 1, () -> x.visits(2));
+    }
+
+    private static void longWalks(Check c) {
+        Chipfold x = Check.path(6, 1);
+        // After the first walk the rotors on the way point back up.
+        c.due("walk(5) on a path", 5, () -> x.walk(5));
+        c.due("walk(5) again", 25, () -> x.walk(5));
+        c.due("visits(5)", 6, () -> x.visits(5));
+        c.due("visits(0)", 2, () -> x.visits(0));
     }
 
     private static void wrongWalks(Check c) {
