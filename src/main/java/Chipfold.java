@@ -468,7 +468,7 @@ public final class Chipfold {
                 return 0;
             }
             int cell = v * MOST_VERTICES + w;
-            return cell < joined.length ? joined[cell] : 0;
+            return cell >= 0 && cell < joined.length ? joined[cell] : 0;
         }
 
         void join(int v, int w, int edges) {
@@ -481,7 +481,7 @@ public final class Chipfold {
                 return;
             }
             int cell = v * MOST_VERTICES + w;
-            if (cell < joined.length && v < degrees.length) {
+            if (cell >= 0 && cell < joined.length && v < degrees.length) {
                 degrees[v] += edges - joined[cell];
                 joined[cell] = edges;
             }
@@ -760,7 +760,7 @@ public final class Chipfold {
                 return 0;
             }
             int cell = row * WIDTH + column;
-            return cell < cells.length ? cells[cell] : 0;
+            return cell >= 0 && cell < cells.length ? cells[cell] : 0;
         }
 
         void write(int row, int column, long value) {
@@ -768,7 +768,7 @@ public final class Chipfold {
                 return;
             }
             int cell = row * WIDTH + column;
-            if (cell < cells.length) {
+            if (cell >= 0 && cell < cells.length) {
                 cells[cell] = value;
             }
         }
