@@ -124,7 +124,12 @@ final class Check {
     }
 
     static Chipfold path(int vertices, int edges) {
-        Chipfold x = garden(vertices);
+        return path(vertices, edges, vertices);
+    }
+
+    /** A path, and vertices apart from it up to so many in all. */
+    static Chipfold path(int vertices, int edges, int all) {
+        Chipfold x = garden(all);
         for (int v = 1; v < vertices; v++) {
             x.edges(v - 1, v, edges);
         }
