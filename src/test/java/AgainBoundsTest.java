@@ -52,6 +52,15 @@ public final class AgainBoundsTest {
             b.asks("just the degree at " + v, false, () -> pile(Check.full(6, 3), chips),
                     Chipfold::isAgain);
         }
+        for (int sink = 0; sink < 6; sink++) {
+            for (int v = 0; v < 6; v++) {
+                int own = sink;
+                int[] chips = {14, 14, 14, 14, 14, 14};
+                chips[v] = 15;
+                b.asks("just the degree at " + v + ", the sink being " + sink, v == sink,
+                        () -> pile(Check.full(6, 3, own), chips), Chipfold::isAgain);
+            }
+        }
         b.asks("a pair with 2 of 3", true, () -> pile(Check.path(2, 3), 0, 2),
                 Chipfold::isAgain);
         b.asks("a pair with 3 of 3", false, () -> pile(Check.path(2, 3), 0, 3),
@@ -68,6 +77,10 @@ public final class AgainBoundsTest {
             b.asks("one too few at " + v, false, () -> pile(Check.full(6, 3), chips),
                     Chipfold::isAgain);
         }
+        b.asks("0 with just enough to be the first", true,
+                () -> pile(Check.full(3, 2, 2), 2), Chipfold::isAgain);
+        b.asks("0 with one too few to be the first", false,
+                () -> pile(Check.full(3, 2, 2), 1), Chipfold::isAgain);
         b.asks("just enough the other way round", true,
                 () -> pile(Check.full(6, 3), 0, 0, 3, 6, 9, 12), Chipfold::isAgain);
         b.asks("a pair with nothing", true, () -> Check.path(2, 3), Chipfold::isAgain);
@@ -256,11 +269,18 @@ public final class AgainBoundsTest {
     }
 
     private static void squareLooksAtEachVertexButTheSink(Bounds b) {
-        for (int v = 1; v < 4; v++) {
-            int[] chips = {1, 1, 1, 1};
-            chips[v] = 1001;
-            b.refuses("square of 1001 at " + v, Bounds.STATE,
-                    () -> pile(Check.full(4, 1), chips), Chipfold::square);
+        for (int sink = 0; sink < 4; sink++) {
+            for (int v = 0; v < 4; v++) {
+                int own = sink;
+                int[] chips = {1, 1, 1, 1};
+                chips[v] = 1001;
+                Bounds.Maker maker = () -> pile(Check.full(4, 1, own), chips);
+                if (v == sink) {
+                    b.answers("square of 1001 in the sink " + v, 0, maker, Chipfold::square);
+                } else {
+                    b.refuses("square of 1001 at " + v, Bounds.STATE, maker, Chipfold::square);
+                }
+            }
         }
         b.answers("square with 2000 in the sink", 0, () -> pile(Check.full(4, 1), 2000, 1),
                 Chipfold::square);
@@ -301,6 +321,24 @@ public final class AgainBoundsTest {
             x.square();
             return x.chips(1);
         });
+        for (int v = 0; v < 6; v++) {
+            int vertex = v;
+            int sink = v == 2 ? 4 : 2;
+            Bounds.Maker maker = () -> {
+                Chipfold x = Check.full(6, 3, sink);
+                x.put(vertex, 8);
+                return x;
+            };
+            b.answers("square at " + v, 1, maker, Chipfold::square);
+            b.answers("chips then at " + v, 1, maker, x -> {
+                x.square();
+                return x.chips(vertex);
+            });
+            b.answers("count then at " + v, 1, maker, x -> {
+                x.square();
+                return x.count(vertex);
+            });
+        }
         b.answers("a pile that is not settled", 4, () -> pile(Check.path(2, 3), 0, 7),
                 Chipfold::square);
         b.answers("squares one after another", "1 1 1", () -> pile(Check.triangle(), 0, 1),

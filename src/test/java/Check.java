@@ -123,6 +123,13 @@ final class Check {
         return x;
     }
 
+    /** Such a graph with another sink. */
+    static Chipfold full(int vertices, int edges, int sink) {
+        Chipfold x = full(vertices, edges);
+        x.setSink(sink);
+        return x;
+    }
+
     static Chipfold path(int vertices, int edges) {
         return path(vertices, edges, vertices);
     }

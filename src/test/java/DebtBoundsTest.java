@@ -20,6 +20,7 @@ public final class DebtBoundsTest {
         reducedIsAtLeastZeroButAtTheSink(b);
         reducedLetsNoSetGive(b);
         reducedKeepsAllTogether(b);
+        reducedOfEachSmallRow(b);
         canPayNeedsWhole(b);
         canPayComesToNoneLessThanZero(b);
         rankNeedsWhole(b);
@@ -27,6 +28,9 @@ public final class DebtBoundsTest {
         rankRefusesInTheOrderListed(b);
         rankIsMinusOneIfTheyCannotBePaid(b);
         rankIsTheGreatestNumber(b);
+        rankAsksWhicheverVertexLoses(b);
+        rankAsksForAllLossesTogether(b);
+        rankOfEachSmallRow(b);
         b.end();
     }
 
@@ -291,6 +295,51 @@ public final class DebtBoundsTest {
         }
     }
 
+    /** Graphs of three vertices with the edges 0-1, 1-2 and 0-2. */
+    private static final int[][] SMALL = {{1, 1, 1}, {2, 1, 0}, {1, 2, 0}, {3, 2, 1}, {3, 3, 3},
+        {0, 1, 3}};
+
+    /** Makes a graph of three vertices of the garden; returns the model of the same. */
+    private static Model small(int[] edges, int sink, Chipfold x) {
+        Model m = new Model();
+        for (int v = 0; v < 3; v++) {
+            m.vertex();
+            x.vertex();
+        }
+        for (int i = 0; i < 3; i++) {
+            int v = i == 1 ? 1 : 0;
+            int w = i == 0 ? 1 : 2;
+            m.edges(v, w, edges[i]);
+            x.edges(v, w, edges[i]);
+        }
+        m.setSink(sink);
+        x.setSink(sink);
+        return m;
+    }
+
+    /** "They are alike to just one row that is reduced", whoever owes. */
+    private static void reducedOfEachSmallRow(Bounds b) {
+        for (int[] edges : SMALL) {
+            for (int sink = 0; sink < 3; sink++) {
+                for (int row = 0; row < 512; row++) {
+                    Chipfold x = new Chipfold();
+                    Model m = small(edges, sink, x);
+                    for (int v = 0; v < 3; v++) {
+                        int debt = (row >> 3 * v & 7) - 4;
+                        m.setDebt(v, debt);
+                        x.setDebt(v, debt);
+                    }
+                    for (int v = 0; v < 3; v++) {
+                        int vertex = v;
+                        b.due("reduced(" + v + ") of the row " + row, m.reduced(v),
+                                () -> x.reduced(vertex));
+                    }
+                    b.due("canPay of the row " + row, m.canPay(), x::canPay);
+                }
+            }
+        }
+    }
+
     /** "Throws UnsupportedOperationException if the graph is not whole". */
     private static void canPayNeedsWhole(Bounds b) {
         b.needsWhole("canPay", Chipfold::canPay);
@@ -381,5 +430,72 @@ public final class DebtBoundsTest {
                 Chipfold::rank);
         b.asks("rank of K4 with one each", 2, () -> owing(Check.full(4, 1), 1, 1, 1, 1),
                 Chipfold::rank);
+    }
+
+    /** A star with a middle, which has all debts: one edge to some others, two to the rest. */
+    private static Chipfold star(int middle, int sink, int arms, int debts) {
+        Chipfold x = Check.garden(6);
+        for (int v = 0; v < 6; v++) {
+            if (v != middle) {
+                x.edges(middle, v, (arms >> v & 1) == 1 ? 2 : 1);
+            }
+        }
+        x.setSink(sink);
+        x.setDebt(middle, debts);
+        return x;
+    }
+
+    /** "whatever vertices": over two edges the middle can give only two at once. */
+    private static void rankAsksWhicheverVertexLoses(Bounds b) {
+        for (int middle = 0; middle < 6; middle++) {
+            for (int v = 0; v < 6; v++) {
+                if (v != middle) {
+                    for (int s = 0; s < 6; s++) {
+                        int own = middle;
+                        int arm = 1 << v;
+                        int sink = s;
+                        b.answers("1 can be lost by all but " + v, 0,
+                                () -> star(own, sink, arm, 1), Chipfold::rank);
+                        b.answers("1 can be lost by " + v, 1, () -> star(own, sink, arm, 2),
+                                Chipfold::rank);
+                    }
+                }
+            }
+        }
+    }
+
+    /** "so many in all, lose one each": only if each arm loses one are they too many. */
+    private static void rankAsksForAllLossesTogether(Bounds b) {
+        for (int middle = 0; middle < 6; middle++) {
+            for (int set = 1; set < 64; set++) {
+                int number = Integer.bitCount(set);
+                if ((set >> middle & 1) == 0 && number <= 4) {
+                    int own = middle;
+                    int arms = set;
+                    int sink = (middle + set) % 6;
+                    b.answers("two for each arm but one too few", number - 1,
+                            () -> star(own, sink, arms, 2 * number - 1), Chipfold::rank);
+                    b.answers("two for each arm", number,
+                            () -> star(own, sink, arms, 2 * number), Chipfold::rank);
+                }
+            }
+        }
+    }
+
+    private static void rankOfEachSmallRow(Bounds b) {
+        for (int[] edges : SMALL) {
+            for (int sink = 0; sink < 3; sink++) {
+                for (int row = 0; row < 512; row++) {
+                    Chipfold x = new Chipfold();
+                    Model m = small(edges, sink, x);
+                    for (int v = 0; v < 3; v++) {
+                        int debt = (row >> 3 * v & 7) - 2;
+                        m.setDebt(v, debt);
+                        x.setDebt(v, debt);
+                    }
+                    b.due("rank of the row " + row, Check.answerOf(m::rank), x::rank);
+                }
+            }
+        }
     }
 }

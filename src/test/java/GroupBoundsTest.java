@@ -13,6 +13,7 @@ public final class GroupBoundsTest {
         factorsAreFiveAtMost(b);
         factorsDivideTheNextOnes(b);
         factorsMultiplyToTheTrees(b);
+        groupOfEachGraphOfFour(b);
         factorAtNeedsWhole(b);
         factorAtNeedsAnIndexOfOne(b);
         factorAtRefusesInTheOrderListed(b);
@@ -161,6 +162,34 @@ public final class GroupBoundsTest {
                 product *= x.factorAt(i);
             }
             b.due("the factors multiplied", product, x::trees);
+        }
+    }
+
+    /** Each graph of four vertices with 0 to 3 edges between each two of them. */
+    private static void groupOfEachGraphOfFour(Bounds b) {
+        for (int set = 0; set < 4096; set++) {
+            Chipfold x = Check.garden(4);
+            Model m = new Model();
+            for (int v = 0; v < 4; v++) {
+                m.vertex();
+            }
+            int left = set;
+            for (int v = 0; v < 4; v++) {
+                for (int w = 0; w < v; w++) {
+                    x.edges(v, w, left & 3);
+                    m.edges(v, w, left & 3);
+                    left >>= 2;
+                }
+            }
+            x.setSink(set % 4);
+            m.setSink(set % 4);
+            b.due("trees of the graph " + set, m.trees(), x::trees);
+            b.due("factors of the graph " + set, Check.answerOf(m::factors), x::factors);
+            for (int i = 0; i < 4; i++) {
+                int index = i;
+                b.due("factorAt(" + i + ") of the graph " + set,
+                        Check.answerOf(() -> m.factorAt(index)), () -> x.factorAt(index));
+            }
         }
     }
 

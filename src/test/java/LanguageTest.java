@@ -1,5 +1,6 @@
 import java.io.IOException;
 import java.lang.reflect.Field;
+import java.lang.reflect.Method;
 import java.lang.reflect.Modifier;
 import java.nio.file.Files;
 import java.nio.file.Path;
@@ -31,8 +32,10 @@ public final class LanguageTest {
         c.due("classes are twelve at the most", true,
                 () -> Chipfold.class.getDeclaredClasses().length < 12);
         fields(c, Chipfold.class);
+        parameters(c, Chipfold.class);
         for (Class<?> inner : Chipfold.class.getDeclaredClasses()) {
             fields(c, inner);
+            parameters(c, inner);
         }
         c.end();
     }
@@ -45,6 +48,12 @@ public final class LanguageTest {
             int now = length;
             c.due("the line is in a short method: " + line, true,
                     () -> now <= MOST_LINES || !line.startsWith("            "));
+        }
+    }
+
+    private static void parameters(Check c, Class<?> type) {
+        for (Method m : type.getDeclaredMethods()) {
+            c.due("seven parameters at the most: " + m, true, () -> m.getParameterCount() <= 7);
         }
     }
 

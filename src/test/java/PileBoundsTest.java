@@ -252,8 +252,26 @@ public final class PileBoundsTest {
                 Chipfold::settle);
     }
 
-    /** The sink does not topple, wherever it is. */
+    /** The sink does not topple, wherever it is, and each other one does. */
     private static void settleTakesTheSinkAsNone(Bounds b) {
+        for (int sink = 0; sink < 6; sink++) {
+            for (int v = 0; v < 6; v++) {
+                int own = sink;
+                int vertex = v;
+                Bounds.Maker maker = () -> on(Check.full(6, 3, own), vertex, 15);
+                String name = " of 15 at " + v + ", the sink being " + sink;
+                b.answers("settle" + name, v == sink ? 0 : 1, maker, Chipfold::settle);
+                b.asks("waves" + name, v == sink ? 0 : 1, maker, Chipfold::waves);
+                b.answers("count" + name, v == sink ? 0 : 1, maker, x -> {
+                    x.settle();
+                    return x.count(vertex);
+                });
+                b.answers("swallowed" + name, v == sink ? 15 : 3, maker, x -> {
+                    x.settle();
+                    return x.swallowed();
+                });
+            }
+        }
         for (int v = 0; v < 3; v++) {
             int sink = v;
             b.answers("settle chips in the sink alone", 0, () -> {

@@ -17,6 +17,8 @@ public final class ShareBoundsTest {
         soundWithTheHighestPiles(b);
         soundAtTheBoundsOfDebts(b);
         soundAtTheBoundsOfTheRest(b);
+        soundIsAskedAnew(b);
+        soundOfEitherAlone(b);
         b.end();
     }
 
@@ -145,7 +147,8 @@ public final class ShareBoundsTest {
 
     /** Where piles may never settle, isSound answers all the same. */
     private static void soundWhereNotWhole(Bounds b) {
-        sound(b, "two beside the sink", () -> pile(Check.garden(3, Check.edge(1, 2, 1)), 0, 50, 50));
+        sound(b, "two beside the sink",
+                () -> pile(Check.garden(3, Check.edge(1, 2, 1)), 0, 50, 50));
         sound(b, "much was done", Bounds::livedApart);
         sound(b, "five beside the sink", () -> {
             Chipfold x = Check.full(6, 3);
@@ -173,6 +176,16 @@ public final class ShareBoundsTest {
             sound(b, "debts of " + all + " in a ring", () -> owing(Check.ring(4), 1, all - 1));
             sound(b, "debts of " + all + ", not whole", () -> owing(Check.garden(3), 0, all));
         }
+        // The degrees less 2 each are many here, so only the debts themselves are 0 to 8.
+        Bounds.Maker dense = () -> Check.garden(6, Check.edge(0, 1, 1), Check.edge(0, 2, 3),
+                Check.edge(1, 2, 3), Check.edge(0, 3, 3), Check.edge(1, 3, 3),
+                Check.edge(2, 3, 2), Check.edge(0, 4, 3), Check.edge(1, 4, 3),
+                Check.edge(3, 4, 1), Check.edge(0, 5, 1), Check.edge(1, 5, 2),
+                Check.edge(2, 5, 2), Check.edge(3, 5, 2));
+        for (int debts = 0; debts <= 9; debts++) {
+            int all = debts;
+            sound(b, "debts of " + all + " among many edges", () -> owing(dense.make(), all));
+        }
         sound(b, "the most debts", () -> owing(Check.full(6, 3), 20, 20, 20, 20, 20, 20));
         sound(b, "the least debts", () -> owing(Check.full(6, 3), -20, -20, -20, -20, -20, -20));
     }
@@ -187,6 +200,40 @@ public final class ShareBoundsTest {
                 return owing(x, 2, 1, 1, 0, 1, all - 5);
             };
             sound(b, "debts of " + all + ", the rest of " + (16 - all), maker);
+        }
+    }
+
+    /** What was asked of other debts, or of another graph, before is of no account. */
+    private static void soundIsAskedAnew(Bounds b) {
+        Chipfold x = Check.full(6, 1);
+        x.edges(0, 5, 0);
+        int[] all = {8, 7, 9, 8, -1, 8, 0, 8, 3, 16, 8, -9, 8, 10, 8, 17, 1, 8};
+        for (int debts : all) {
+            x.setDebt(1, debts);
+            b.due("isSound with debts of " + debts, true, x::isSound);
+        }
+        for (int edges = 3; edges >= 0; edges--) {
+            for (int v = 1; v < 6; v++) {
+                x.edges(0, v, edges);
+                x.setDebt(v, 8 - v % 3);
+                b.due("isSound with " + edges + " edges up to " + v, true, x::isSound);
+            }
+        }
+    }
+
+    /** In a ring of five, 3 edges each, the degrees less 2 each are 20: never are both 0 to 8. */
+    private static void soundOfEitherAlone(Bounds b) {
+        Chipfold x = Check.ring(5);
+        for (int v = 0; v < 5; v++) {
+            x.edges(v, (v + 1) % 5, 3);
+        }
+        for (int turn = 0; turn <= 20; turn++) {
+            int[] totals = {20 - turn, turn % 9, 18, turn % 5};
+            for (int all : totals) {
+                x.setDebt(1, all / 2);
+                x.setDebt(4, all - all / 2);
+                b.due("isSound with debts of " + all, true, x::isSound);
+            }
         }
     }
 
