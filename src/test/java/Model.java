@@ -276,7 +276,7 @@ final class Model {
     }
 
     /** The product of two piles. */
-    private int[] product(int[] a, int[] b) {
+    int[] product(int[] a, int[] b) {
         int[] sum = new int[6];
         for (int v = 0; v < 6; v++) {
             sum[v] = a[v] + b[v];
